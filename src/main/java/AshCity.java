@@ -73,7 +73,7 @@ public final class AshCity {
     }
 
     public int place(int kind, int a, int b) {
-        if (!within(kind, 0, Plan.LAST_KIND) || !plan.isArea(a, b)) {
+        if (!within(kind, 0, Plan.LAST_PLACE_KIND) || !plan.isArea(a, b)) {
             return NONE;
         }
         if (plan.places >= Plan.LIMIT || plan.isTaken(a, b)) {
@@ -535,7 +535,7 @@ public final class AshCity {
     /** CELLS, the PLACES on them, and what NUMBERS meant by the NUMBERINGS. */
     private static final class Plan {
         static final int LIMIT = 30;
-        static final int LAST_KIND = 2;
+        static final int LAST_PLACE_KIND = 2;
         static final int MOST_TELLINGS = 200;
 
         int width = 8;
@@ -1228,7 +1228,7 @@ public final class AshCity {
         final int[] marks = new int[LIMIT];
         private final int[] told = new int[LIMIT];
         private final int[] dugIn = new int[MOST_WEEKS];
-        private final int[] linesOfKind = new int[Plan.LAST_KIND + 1];
+        private final int[] linesOfKind = new int[Plan.LAST_PLACE_KIND + 1];
 
         Finds(Plan plan, Digs digs, RuleBook book) {
             this.plan = plan;

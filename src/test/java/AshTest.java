@@ -8,6 +8,8 @@ public final class AshTest {
         heights();
         hollows();
         ways();
+        border();
+        directions();
         corners();
         Due.end();
     }
@@ -153,6 +155,37 @@ public final class AshTest {
         Due.is("on the border its own cell is not asked", x.way(1), 0);
         x.height(12, 0);
         Due.is("nor within", x.way(0), 2);
+    }
+
+    /** On each side 0; within, as many as rings around it. */
+    private static void border() {
+        int[][] sides = {{6, 5}, {4, 4}};
+        for (int[] s : sides) {
+            AshCity x = new AshCity();
+            x.city(s[0], s[1]);
+            for (int c = 0; c < s[0] * s[1]; c++) {
+                int column = c % s[0];
+                int row = c / s[0];
+                int due = Math.min(Math.min(column, row), Math.min(s[0] - 1 - column, s[1] - 1 - row));
+                Due.is("way out of " + c, x.way(x.hollow(c, 0)), due);
+            }
+        }
+    }
+
+    /** In each of the eight directions the only CELL that is FREE. */
+    private static void directions() {
+        int[] besides = {0, 1, 2, 4, 6, 8, 9, 10};
+        for (int beside : besides) {
+            AshCity x = new AshCity();
+            x.city(4, 4);
+            x.ash(0, 0, 0);
+            x.hollow(5, 0);
+            for (int c = 0; c < 16; c++) {
+                x.height(c, c == beside ? 2 : 1);
+            }
+            boolean border = beside < 4 || beside % 4 == 0;
+            Due.is("way over " + beside, x.way(0), border ? 1 : -2);
+        }
     }
 
     /** Left and right borders are not beside one another. */

@@ -102,6 +102,9 @@ public final class FindsTest {
         Due.is("it means a place only when nobody digs", x.may(2, 50), 0);
         Due.is("by another numbering", x.may(3, 50), 4);
         Due.is("a number that means nothing", x.may(4, 50), 0);
+        x.dig(1, 0, 0, 1, 0, 7, 10, 20);
+        x.find(1, 12, 13, 5, 0, 0, 0, 0);
+        Due.is("it means another place, in which that hand did not dig", x.may(5, 50), 1);
         Due.rules(x, 12, 12, "n0");
         Due.is("not by that numbering in week 12", x.may(3, 50), 0);
         Due.is("week 13 is free", x.may(1, 50), 3);
@@ -186,7 +189,9 @@ public final class FindsTest {
         Due.is("without rules", x.barred(0), 0);
         Due.is("without rules", x.barred(1), 0);
         Due.is("refill", x.barred(2), -1);
-        Due.is("no such one", x.barred(3), -1);
+        x.dig(4, 1, 0, 0, 5, 6, 11, 20);
+        Due.is("the last one", x.barred(3), 0);
+        Due.is("no such one", x.barred(4), -1);
         Due.is("no such one", x.barred(-1), -1);
         Due.rules(x, 10, 10, "f5");
         Due.is("down to 5 is right", x.barred(0), 0);

@@ -135,6 +135,8 @@ public final class GroundTest {
         }
         Due.is("a 101st dig", x.dig(1, 2, 0, 0, 3, 3, 0, 0), -1);
         Due.is("100 are there", x.count(4), 100);
+        Due.no("strike 100", x.strike(100));
+        Due.yes("strike 99", x.strike(99));
     }
 
     private static void wrongDigs() {

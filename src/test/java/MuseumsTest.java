@@ -10,6 +10,7 @@ public final class MuseumsTest {
         wrongJoins();
         eightOfSixty();
         lost();
+        nextIsTheLowest();
         wrongLost();
         Due.end();
     }
@@ -202,6 +203,17 @@ public final class MuseumsTest {
         Due.feedBytes(x, finds);
         Due.is("lost " + java.util.Arrays.toString(finds) + " " + what, x.lost(finds.length, what), due);
         Due.is("empty then", x.count(14), 0);
+    }
+
+    private static void nextIsTheLowest() {
+        AshCity x = withFinds(0, 1, 2);
+        x.thing(0, 0, 1);
+        x.thing(9, 0, 2);
+        x.gone(0, true);
+        x.gone(1, true);
+        lost(x, 1, 0, 0, 1);
+        x.gone(0, false);
+        lost(x, 1, 9, 0, 1);
     }
 
     private static void wrongLost() {

@@ -52,7 +52,9 @@ public final class OfficeTest {
         told("one too much", 9, 4, 5, 7, 1, 63, 0, 3, 63, 1, 2, 63, 2, 1);
         told("one too much, of zeros", 9, 4, 5, 7, 1, 63, 0, 3, 63, 1, 2, 0, 0, 0);
         told("below 0", 0, 1, -5, 7, 1);
-        told("a high byte", 2, 3, 5, 7, 1 << 24, 63, 0, 3, 63, 1, 2);
+        told("a high byte", 2, 3, 5, 7, 1 + (1 << 24), 63, 0, 3, 63, 1, 2);
+        told("a second byte", 0, 3, 5 + (1 << 8), 7, 1, 63, 0, 3, 63, 1, 2);
+        told("a third byte", 4, 3, 5, 7, 1, 63, 1 << 16, 3, 63, 1, 2);
         told("not so many", -2, 4, 5, 7, 1, 63, 0, 3, 63, 1);
     }
 

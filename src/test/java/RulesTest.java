@@ -37,6 +37,9 @@ public final class RulesTest {
             Due.no("means " + java.util.Arrays.toString(w), x.means(w[0], w[1], w[2], w[3], w[4]));
         }
         Due.is("three tellings", x.count(15), 3);
+        x.means(1, 5, 0, 0, 9999);
+        Due.is("no number 105", x.meaning(0, 105, 0), -1);
+        Due.is("no number -95", x.meaning(2, -95, 0), -1);
         int[][] asked = {{-1, 1, 0}, {4, 1, 0}, {0, 0, 0}, {3, 100, 0}, {3, 99, -1}, {3, 99, 10000}};
         for (int[] w : asked) {
             Due.is("meaning " + java.util.Arrays.toString(w), x.meaning(w[0], w[1], w[2]), -1);
@@ -224,6 +227,8 @@ public final class RulesTest {
         holds("!1=2&1=2", 0, 0, 0, 0, false);
         holds("!(1=2&1=2)", 0, 0, 0, 0, true);
         holds("!!1=2", 0, 0, 0, 0, false);
+        holds("!!1=1", 0, 0, 0, 0, true);
+        holds("!!!1=1|!!!!1=1&!!1=1", 0, 0, 0, 0, true);
         holds("1=2&!(1=1)|1=1&!1=2", 0, 0, 0, 0, true);
         holds("10-3-2=5", 0, 0, 0, 0, true);
         holds("2+3*4=14", 0, 0, 0, 0, true);

@@ -5,6 +5,7 @@ public final class SignsTest {
         hundred();
         who();
         rivals();
+        leastWorth();
         letters();
         Due.end();
     }
@@ -88,6 +89,25 @@ public final class SignsTest {
         Due.is("8 is not", x.who(0, 2), 5);
         x.sign(1, 2, 0, 0);
         Due.is("8 is just half of 16", x.who(0, 2), 5);
+    }
+
+    private static void leastWorth() {
+        AshCity x = new AshCity();
+        x.place(0, 0, 0);
+        Due.rules(x, 0, 9, "v1(k=1)");
+        x.sign(0, 0, 0, 0);
+        x.sign(0, 1, 0, 0);
+        x.sign(1, 1, 0, 0);
+        x.sign(1, 1, 0, 0);
+        Due.is("two are worth more", x.who(0, 0), 1);
+        Due.is("half of it is a rival", x.who(0, 2), 2);
+        AshCity y = new AshCity();
+        y.place(0, 0, 0);
+        Due.rules(y, 0, 9, "v1(k=1)");
+        y.sign(0, 0, 0, 0);
+        y.sign(0, 1, 0, 0);
+        Due.is("one is above 0", y.who(0, 0), 0);
+        Due.is("one", y.who(0, 1), 1);
     }
 
     private static void letters() {

@@ -100,6 +100,8 @@ public final class WallsTest {
         x.draw(0, 40, 0);
         x.draw(0, 30, 1);
         stood(x, "one", 0, 0, 100, 50, -1, 1, 0);
+        Due.is("no what 4", x.stood(0, 0, 100, 4), -1);
+        Due.is("no what -1", x.stood(0, 0, 100, -1), -1);
         x.draw(0, 35, 0);
         stood(x, "an earlier one that lacks it", 0, 0, 100, 50, -1, 3, 0);
         x.draw(0, 37, 1);
@@ -184,5 +186,8 @@ public final class WallsTest {
         Due.is("of least cost, then the least", x.best(9), 2);
         Due.is("two of least cost", x.best(100), 6);
         Due.is("what saves nothing is not taken", x.best(1), 0);
+        AshCity y = withWalls(0, 1);
+        y.work(0, 1, 100);
+        Due.is("what saves 1 is taken", y.best(1), 1);
     }
 }
