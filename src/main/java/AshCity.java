@@ -237,7 +237,7 @@ public final class AshCity {
         if (!isFind(i) || !within(k, 0, museums.things - 1)) {
             return NONE;
         }
-        return !museums.missing[k] && museums.fits(i, k, museums.wanted(i)) ? 1 : 0;
+        return !museums.missing[k] && museums.fits(i, k, museums.marksNeeded(i)) ? 1 : 0;
     }
 
     public int join(int n) {
@@ -369,7 +369,7 @@ public final class AshCity {
         if (!isWall(w) || !within(cost, 1, MOST_COST) || !within(hundredths, 1, 100)) {
             return NONE;
         }
-        return walls.works < Walls.MOST_WORKS ? walls.plan(w, cost, hundredths) : NONE;
+        return walls.works < Walls.MOST_WORKS ? walls.undertake(w, cost, hundredths) : NONE;
     }
 
     public int best(int money) {
@@ -1381,7 +1381,7 @@ public final class AshCity {
         }
 
         /** How many MARKS must agree for FIND i. */
-        int wanted(int i) {
+        int marksNeeded(int i) {
             finds.askFor(i);
             return book.marksWanted();
         }
@@ -1404,7 +1404,7 @@ public final class AshCity {
                     return false;
                 }
                 choice[chosen] = i;
-                wanted[chosen] = wanted(i);
+                wanted[chosen] = marksNeeded(i);
                 chosen++;
             }
             return true;
@@ -1611,7 +1611,7 @@ public final class AshCity {
             return drawing == NONE ? NONE : drawn[drawing];
         }
 
-        int plan(int w, int ofCost, int hundredths) {
+        int undertake(int w, int ofCost, int hundredths) {
             workWall[works] = w;
             cost[works] = ofCost;
             saving[works] = worth[w] * hundredths / 100;
