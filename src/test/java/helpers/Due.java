@@ -2,15 +2,25 @@
 public final class Due {
     private static int wrong = 0;
     private static int asked = 0;
+    private static String about = "";
 
     private Due() {
+    }
+
+    /** What the answers from now on are about; it is printed ahead of each that is not as due. */
+    public static void about(String words) {
+        about = words;
+    }
+
+    public static int asked() {
+        return asked;
     }
 
     public static void is(String what, long got, long want) {
         asked++;
         if (got != want) {
             wrong++;
-            System.out.println(what + " answered " + got + ", due is " + want);
+            System.out.println(about + what + " answered " + got + ", due is " + want);
         }
     }
 
@@ -20,6 +30,11 @@ public final class Due {
 
     public static void no(String what, boolean got) {
         is(what, got ? 1 : 0, 0);
+    }
+
+    /** NONE is due. */
+    public static void none(String what, long got) {
+        is(what, got, -1);
     }
 
     /** Feeds signs, with zeros behind them up to a multiple of twenty. */
