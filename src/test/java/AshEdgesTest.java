@@ -87,6 +87,17 @@ public final class AshEdgesTest {
             hours(down, l, 7 - l, 99 - l);
             hours(up, l, l, 92 + l);
         }
+        AshCity fromBelow = new AshCity();
+        AshCity mixed = new AshCity();
+        int[] order = {3, 0, 6, 1, 5, 2, 4};
+        for (int i = 0; i < 7; i++) {
+            fromBelow.above(6 - i, 7 - i);
+            mixed.above(order[i], order[i] + 1);
+        }
+        for (int l = 0; l < 8; l++) {
+            hours(fromBelow, l, 7 - l, 99 - l);
+            hours(mixed, l, 7 - l, 99 - l);
+        }
         AshCity narrow = new AshCity();
         for (int l = 0; l < 7; l++) {
             narrow.above(l, l + 1);

@@ -137,6 +137,35 @@ public final class FindsEdgesTest {
         Due.is("below it", mayOfDig(0, TUNNEL, 27, 6, 7), 0);
     }
 
+    @Says(in = 0, words = "has a CELL of that PLACE and a LAYER of its LAYERS")
+    static void placesToldBehindTheDigs() {
+        AshCity x = new AshCity();
+        x.dig(0, OPEN, 0, 9, 0, 0, 0, 0);
+        x.dig(1, OPEN, 18, 18, 0, 0, 0, 0);
+        x.find(0, 0, 0, 0, 0, 0, 0, 0);
+        x.find(1, 0, 0, 0, 0, 0, 0, 0);
+        Due.is("no place is there", x.may(0, 0), 0);
+        x.place(0, 2, 2);
+        Due.is("a place beside it", x.may(0, 0), 0);
+        x.place(0, 9, 18);
+        Due.is("a place that has a corner of the first dig", x.may(0, 0), 2);
+        Due.is("and of the second", x.may(1, 0), 2);
+        x.place(0, 0, 1);
+        Due.is("another one", x.may(0, 0), 6);
+        Due.is("not of the second", x.may(1, 0), 2);
+    }
+
+    @Says(in = 0, words = "on which its NUMBER means that PLACE by a NUMBERING by which lines may be")
+    static void meantButNotDug() {
+        AshCity x = Edges.withPlaces(3, 0);
+        x.dig(0, OPEN, 1, 1, 0, 0, 0, 0);
+        for (int n = 0; n < 3; n++) {
+            x.means(n, 5, n, 0, 0);
+        }
+        find(x, 0, 0, 5);
+        Due.is("of three that it means the one that was dug", x.may(0, 0), 2);
+    }
+
     /** May of a FIND of HAND 0 in the LAYERS 3 to 5 where one DIG has one CELL; the PLACE has the CELLS 27, 28, 35, 36. */
     private static int mayOfDig(int hand, int kind, int cell, int top, int bottom) {
         AshCity x = new AshCity();
@@ -291,6 +320,20 @@ public final class FindsEdgesTest {
         x.dig(0, OPEN, 0, 0, 0, 0, 0, 0);
         find(x, 0, 0, 0);
         Edges.range("t", 0, 9999, t -> x.sure(t) == 1);
+    }
+
+    @Says(in = 17, words = "How many FINDS are SURE as KNOWN on t")
+    static void sureWhenTold() {
+        AshCity x = Edges.withPlaces(1, 0);
+        x.dig(0, OPEN, 0, 0, 0, 0, 0, 0);
+        for (int week = 5; week < 8; week++) {
+            x.now(week);
+            find(x, 0, 0, 0);
+        }
+        int[][] rows = {{0, 0}, {4, 0}, {5, 1}, {6, 2}, {7, 3}, {9999, 3}};
+        for (int[] r : rows) {
+            Due.is("on " + r[0], x.sure(r[0]), r[1]);
+        }
     }
 
     @Says(in = 17, words = "How many FINDS are SURE as KNOWN on t")

@@ -460,6 +460,7 @@ public final class GroundEdgesTest {
         Due.none("a 101st, though one is struck", x.dig(0, OPEN, 0, 0, 0, 0, 0, 0));
         Due.is("it opened nothing", x.ground(0, 0, 0, 0), 0);
         Due.is("100", x.count(4), 100);
+        Due.is("a place is taken still", x.place(0, 0, 63), 0);
     }
 
     @Says(in = 7, words = "false: no such one")
@@ -473,6 +474,11 @@ public final class GroundEdgesTest {
         }
         Due.is("it is known", x.ground(0, 0, 0, 0), 2);
         Due.yes("strike 0", x.strike(0));
+        for (int i = 1; i < 100; i++) {
+            x.dig(0, 0, 0, 0, 0, 0, 0, 0);
+        }
+        Due.no("strike 100 of a hundred", x.strike(100));
+        Due.yes("strike 99 of a hundred", x.strike(99));
     }
 
     @Says(in = 7, words = "it is.")

@@ -142,6 +142,9 @@ public final class MuseumsEdgesTest {
         AshCity y = withFinds(0);
         Due.is("of no things", join(y, 0), 0);
         row(y, NO_THING);
+        AshCity spare = withThings(withFinds(1, 2, 3, 4, 5, 6, 7, 8), 1, 1, 1);
+        Due.is("what is over goes to none that is not like it", join(spare, upTo(8)), 1);
+        row(spare, 0, NO_THING, NO_THING, NO_THING, NO_THING, NO_THING, NO_THING, NO_THING);
     }
 
     @Says(in = 0, words = "of most FINDS that get one")
@@ -223,6 +226,15 @@ public final class MuseumsEdgesTest {
         Due.is("one by 0, one by 9", lost(x, 1, 0, 1, 2), 0);
         x.gone(5, false);
         Due.none("none is lost", lost(x, 1, 0, 1, 2));
+        AshCity behind = withThings(withFinds(1, 2, 7), 1);
+        behind.thing(3, 0, 2);
+        behind.thing(4, 0, 15);
+        behind.gone(1, true);
+        behind.gone(2, true);
+        Due.is("those that are lost stand behind one that is not", lost(behind, 1, 0, 1), 3);
+        Due.none("not like any", lost(behind, 1, 0, 2));
+        Due.rules(behind, 0, 0, "a7(m=7)");
+        Due.is("each by its own number a", lost(behind, 1, 0, 2), 4);
         AshCity most = withFinds(1, 2, 3);
         int[][] marks = {{0, 1}, {0, 2}, {9, 1}, {9, 2}, {9, 3}};
         for (int k = 0; k < marks.length; k++) {

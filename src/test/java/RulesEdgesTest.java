@@ -481,6 +481,11 @@ public final class RulesEdgesTest {
         Due.rules(higher, 0, 9, "x1.0;x19.0");
         Due.rules(higher, 0, 9, "v1");
         Due.is("not higher ones", higher.number(1, 0, 0, 0, 0, -1), 1);
+        AshCity others = new AshCity();
+        Due.rules(others, 0, 9, "v5;n3;a4;f6");
+        Due.rules(others, 0, 9, "n0;a0(1=0);v0(1=0);f0(1=0)");
+        Due.is("no other clause strikes: v", others.number(1, 0, 0, 0, 0, -1), 5);
+        Due.is("no other clause strikes: n", others.number(3, 0, 0, 0, 0, -1), 9);
         AshCity lacking = new AshCity();
         Due.rules(lacking, 0, 9, "v1");
         Due.rules(lacking, 0, 9, "x0.1;x0.9");
@@ -491,6 +496,13 @@ public final class RulesEdgesTest {
         int[][] rows = {{4, 1}, {5, 0}, {6, 0}, {7, 1}};
         for (int[] r : rows) {
             Due.is("week " + r[0], later.number(1, r[0], 0, 0, 0, -1), r[1]);
+        }
+        AshCity lines = new AshCity();
+        Due.rules(lines, 0, 9, "n1;n2");
+        Due.rules(lines, 5, 6, "x0.1");
+        int[][] bits = {{4, 6}, {5, 2}, {6, 2}, {7, 6}, {5, 2}, {4, 6}};
+        for (int[] b : bits) {
+            Due.is("lines of week " + b[0], lines.number(3, b[0], 0, 0, 0, -1), b[1]);
         }
     }
 

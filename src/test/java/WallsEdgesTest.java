@@ -165,6 +165,9 @@ public final class WallsEdgesTest {
         x.work(0, 10, 90);
         x.work(1, 7, 50);
         x.work(1, 4, 45);
+        AshCity little = withWalls(0, 1);
+        little.work(0, 10000, 100);
+        Due.is("for 1 all is given", little.best(10000), 1);
         int[][] rows = {{0, 0}, {3, 0}, {4, 4}, {6, 4}, {7, 2}, {9, 2}, {10, 1}, {11, 6}, {13, 6}, {14, 5}, {16, 5}, {17, 3}, {20, 3}, {21, 7}, {100000, 7}};
         for (int[] r : rows) {
             Due.is("with " + r[0], x.best(r[0]), r[1]);
