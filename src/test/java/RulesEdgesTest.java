@@ -298,6 +298,8 @@ public final class RulesEdgesTest {
         Due.yes("what is left has the sign of the first", Edges.holds("[0-7]%2=0-1"));
         Due.yes("not of the second", Edges.holds("7%[0-2]=1"));
         Due.yes("0 by something", Edges.holds("0/5=0&0%5=0"));
+        Due.yes("something by 1", Edges.holds("7/1=7&7%1=0"));
+        Due.yes("something by -1", Edges.holds("7/[0-1]=0-7&7%[0-1]=0"));
     }
 
     @Says(in = 0, words = "what is divided by 0 is REFUSED; then C does not hold")
